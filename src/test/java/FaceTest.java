@@ -16,7 +16,7 @@ public final class FaceTest {
         + "int output(int) int outs() int simple(int,int,int) int size() int start(int,int) void clear()";
     private static final String OUTSIDE_WORDS = "import|package|float|double|String|Math|Integer|Long|"
         + "System|Arrays|Object|null|throw|throws|try|catch|synchronized|assert|instanceof|"
-        + "enum|interface|record|var";
+        + "enum|interface|record";
 
     public static void main(String[] args) throws IOException {
         constants();
