@@ -1,21 +1,30 @@
 /** Counts wrong answers for the tests of the project, and tells the state of an object in full. */
 final class Check {
     private static int wrong = 0;
+    private static String sentence = "";
 
     private Check() {
     }
 
+    /** The sentence of the document that the answers from here on are due by. */
+    static void by(String words) {
+        sentence = words;
+    }
+
+    private static void tell(String words) {
+        wrong++;
+        System.out.println((sentence.isEmpty() ? "" : "[" + sentence + "] ") + words);
+    }
+
     static void due(String what, long got, long want) {
         if (got != want) {
-            wrong++;
-            System.out.println(what + " answered " + got + ", due is " + want);
+            tell(what + " answered " + got + ", due is " + want);
         }
     }
 
     static void dueText(String what, String got, String want) {
         if (!got.equals(want)) {
-            wrong++;
-            System.out.println(what + " is\n  " + got + "\ndue is\n  " + want);
+            tell(what + " is\n  " + got + "\ndue is\n  " + want);
         }
     }
 
@@ -38,6 +47,13 @@ final class Check {
             text.append(' ').append(x.output(k));
         }
         return text.toString();
+    }
+
+    /** How the run ends, how often it goes back and how many numbers it puts out. */
+    static void runDue(String what, FlowOptimiser x, int ending, int backs, int outs) {
+        due(what + ": ending()", x.ending(), ending);
+        due(what + ": backs()", x.backs(), backs);
+        due(what + ": outs()", x.outs(), outs);
     }
 
     static void end() {

@@ -33,23 +33,17 @@ public final class RunningTest {
         return x;
     }
 
-    private static void endDue(String what, FlowOptimiser x, int ending, int backs, int outs) {
-        Check.due(what + ": ending()", x.ending(), ending);
-        Check.due(what + ": backs()", x.backs(), backs);
-        Check.due(what + ": outs()", x.outs(), outs);
-    }
-
     private static void halting() {
         FlowOptimiser x = new FlowOptimiser();
-        endDue("no instruction", x, FlowOptimiser.HALTED, 0, 0);
+        Check.runDue("no instruction", x, FlowOptimiser.HALTED, 0, 0);
         x.halt();
         x.jump(0);
-        endDue("halt at once", x, FlowOptimiser.HALTED, 0, 0);
+        Check.runDue("halt at once", x, FlowOptimiser.HALTED, 0, 0);
         x.clear();
         for (int i = 0; i < 20; i++) {
             x.out(0);
         }
-        endDue("off the end of a full program", x, FlowOptimiser.HALTED, 0, 20);
+        Check.runDue("off the end of a full program", x, FlowOptimiser.HALTED, 0, 20);
     }
 
     private static void placesBehindTheProgram() {
@@ -57,12 +51,12 @@ public final class RunningTest {
             FlowOptimiser x = new FlowOptimiser();
             x.jump(l);
             x.out(0);
-            endDue("jump behind the end to " + l, x, FlowOptimiser.HALTED, 0, 0);
+            Check.runDue("jump behind the end to " + l, x, FlowOptimiser.HALTED, 0, 0);
             x.clear();
             x.start(0, 1);
             x.branch(0, l);
             x.out(0);
-            endDue("branch behind the end to " + l, x, FlowOptimiser.HALTED, 0, 0);
+            Check.runDue("branch behind the end to " + l, x, FlowOptimiser.HALTED, 0, 0);
         }
         FlowOptimiser x = new FlowOptimiser();
         x.jump(19);
@@ -70,7 +64,7 @@ public final class RunningTest {
             x.halt();
         }
         x.out(0);
-        endDue("jump to the last of 20", x, FlowOptimiser.HALTED, 0, 1);
+        Check.runDue("jump to the last of 20", x, FlowOptimiser.HALTED, 0, 1);
     }
 
     private static void fullUpNeedsOneMore() {
@@ -82,24 +76,24 @@ public final class RunningTest {
         }
         x.apply(3, 0, 0, 1);
         x.branch(0, 0);
-        endDue("24 numbers and no more", x, FlowOptimiser.HALTED, 1, 24);
+        Check.runDue("24 numbers and no more", x, FlowOptimiser.HALTED, 1, 24);
         x.out(0);
-        endDue("the 25th after the loop", x, FlowOptimiser.FULL_UP, 1, 24);
+        Check.runDue("the 25th after the loop", x, FlowOptimiser.FULL_UP, 1, 24);
         Check.due("the 24th stays", x.output(23), 1);
         Check.due("the 25th isn't kept", x.output(24), 0);
         x.drop();
         x.halt();
         x.out(0);
-        endDue("halt before the 25th", x, FlowOptimiser.HALTED, 1, 24);
+        Check.runDue("halt before the 25th", x, FlowOptimiser.HALTED, 1, 24);
         x.start(0, 3);
-        endDue("a third time round", x, FlowOptimiser.FULL_UP, 2, 24);
+        Check.runDue("a third time round", x, FlowOptimiser.FULL_UP, 2, 24);
     }
 
     private static void tiredNeedsOneMore() {
-        endDue("39 times back", countdown(40), FlowOptimiser.HALTED, 39, 0);
-        endDue("40 times back", countdown(41), FlowOptimiser.HALTED, 40, 0);
-        endDue("41 times back", countdown(42), FlowOptimiser.TIRED, 40, 0);
-        endDue("without end", countdown(0), FlowOptimiser.TIRED, 40, 0);
+        Check.runDue("39 times back", countdown(40), FlowOptimiser.HALTED, 39, 0);
+        Check.runDue("40 times back", countdown(41), FlowOptimiser.HALTED, 40, 0);
+        Check.runDue("41 times back", countdown(42), FlowOptimiser.TIRED, 40, 0);
+        Check.runDue("without end", countdown(0), FlowOptimiser.TIRED, 40, 0);
         FlowOptimiser x = countdown(41);
         x.out(0);
         Check.outputsDue("goes on after 40 times back", x, 0);
@@ -112,16 +106,16 @@ public final class RunningTest {
         x.start(5, -9);
         x.branch(5, 0);
         x.out(5);
-        endDue("branch to itself", x, FlowOptimiser.TIRED, 40, 0);
+        Check.runDue("branch to itself", x, FlowOptimiser.TIRED, 40, 0);
         x.start(5, 0);
-        endDue("branch to itself not taken", x, FlowOptimiser.HALTED, 0, 1);
+        Check.runDue("branch to itself not taken", x, FlowOptimiser.HALTED, 0, 1);
     }
 
     private static void jumpToItself() {
         FlowOptimiser x = new FlowOptimiser();
         x.out(0);
         x.jump(1);
-        endDue("jump to itself", x, FlowOptimiser.TIRED, 40, 1);
+        Check.runDue("jump to itself", x, FlowOptimiser.TIRED, 40, 1);
     }
 
     private static void onlyTakenBranchesGoBack() {
@@ -129,7 +123,7 @@ public final class RunningTest {
         for (int i = 0; i < 20; i++) {
             x.branch(0, 0);
         }
-        endDue("20 branches back, none taken", x, FlowOptimiser.HALTED, 0, 0);
+        Check.runDue("20 branches back, none taken", x, FlowOptimiser.HALTED, 0, 0);
     }
 
     private static void forwardsIsNotBack() {
@@ -139,7 +133,7 @@ public final class RunningTest {
             x.jump(2 * i + 1);
             x.branch(0, 2 * i + 2);
         }
-        endDue("to the next one each time", x, FlowOptimiser.HALTED, 0, 0);
+        Check.runDue("to the next one each time", x, FlowOptimiser.HALTED, 0, 0);
     }
 
     private static void backsOfSeveralInstructionsAddUp() {
@@ -151,9 +145,9 @@ public final class RunningTest {
         x.apply(3, 0, 0, 1);
         x.jump(1);
         x.branch(0, 2);
-        endDue("jump and branch together", x, FlowOptimiser.HALTED, 39, 0);
+        Check.runDue("jump and branch together", x, FlowOptimiser.HALTED, 39, 0);
         x.start(0, 21);
-        endDue("tired at the branch or the jump", x, FlowOptimiser.TIRED, 40, 0);
+        Check.runDue("tired at the branch or the jump", x, FlowOptimiser.TIRED, 40, 0);
     }
 
     private static void longestRun() {
@@ -164,7 +158,7 @@ public final class RunningTest {
         }
         x.branch(7, 0);
         x.jump(0);
-        endDue("820 steps", x, FlowOptimiser.TIRED, 40, 0);
+        Check.runDue("820 steps", x, FlowOptimiser.TIRED, 40, 0);
         // The same length with an end: 40 times back, and the last stretch runs to its end.
         x.clear();
         x.start(0, 41);
@@ -173,7 +167,7 @@ public final class RunningTest {
             x.apply(2, 2, 2, 1);
         }
         x.branch(0, 0);
-        endDue("820 steps with an end", x, FlowOptimiser.HALTED, 40, 0);
+        Check.runDue("820 steps with an end", x, FlowOptimiser.HALTED, 40, 0);
         x.clear();
         x.apply(3, 0, 0, 1);
         for (int i = 0; i < 16; i++) {
@@ -189,7 +183,7 @@ public final class RunningTest {
         FlowOptimiser x = new FlowOptimiser();
         x.out(0);
         x.jump(0);
-        endDue("full up before tired", x, FlowOptimiser.FULL_UP, 24, 24);
+        Check.runDue("full up before tired", x, FlowOptimiser.FULL_UP, 24, 24);
         x.clear();
         x.start(1, 17);
         x.start(2, 1);
@@ -197,11 +191,11 @@ public final class RunningTest {
         x.branch(1, 0);
         x.out(0);
         x.jump(2);
-        endDue("the 40th time back comes before the 25th number", x, FlowOptimiser.FULL_UP, 40, 24);
+        Check.runDue("the 40th time back comes before the 25th number", x, FlowOptimiser.FULL_UP, 40, 24);
         x.start(1, 18);
-        endDue("tired with 24 numbers put out", x, FlowOptimiser.TIRED, 40, 24);
+        Check.runDue("tired with 24 numbers put out", x, FlowOptimiser.TIRED, 40, 24);
         x.start(1, 19);
-        endDue("tired with 23 numbers put out", x, FlowOptimiser.TIRED, 40, 23);
+        Check.runDue("tired with 23 numbers put out", x, FlowOptimiser.TIRED, 40, 23);
     }
 
     private static void outputOutside() {
